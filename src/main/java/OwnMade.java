@@ -786,7 +786,8 @@ public final class OwnMade {
                 from = readToken(from);
             }
             keep(END, length, 0);
-            stepTo(0);
+            at = NONE;
+            advance();
         }
 
         private int close() {
@@ -858,16 +859,13 @@ public final class OwnMade {
             }
         }
 
-        private void stepTo(int token) {
-            if (token < tokens) {
-                at = token;
-                kind = kinds[token];
-                value = values[token];
-            }
-        }
-
+        /** Behind the end there is nothing: there it stays. */
         private void advance() {
-            stepTo(at + 1);
+            if (at + 1 < tokens) {
+                at++;
+                kind = kinds[at];
+                value = values[at];
+            }
         }
 
         private boolean isName() {
@@ -1117,7 +1115,18 @@ public final class OwnMade {
                 return false;
             }
             int makes = takeGoods(tape, land);
-            if (makes == NONE || !readWants(tape, land, land.worths[person]) || !tape.take(';')) {
+            if (makes == NONE) {
+                return false;
+            }
+            int wanted = 0;
+            for (int i = 0; i <= MOST_GOODS && tape.kind == WANTS; i++) {
+                int good = readWant(tape, land, wanted);
+                if (good == NONE) {
+                    return false;
+                }
+                wanted |= 1 << good;
+            }
+            if (!tape.take(';')) {
                 return false;
             }
             land.home[person] = home;
@@ -1126,29 +1135,23 @@ public final class OwnMade {
             return true;
         }
 
-        private static boolean readWants(Tape tape, Land land, int[] worths) {
-            int wanted = 0;
-            for (int i = 0; i <= MOST_GOODS && tape.kind == WANTS; i++) {
-                tape.advance();
-                int good = takeTold(tape, land.goodNames, land.goods, wanted);
-                if (good == NONE || !readWorths(tape, worths, good * WORTHS)) {
-                    return false;
-                }
-                wanted |= 1 << good;
+        /** What the next one of the PEOPLE wants, a GOOD none of the wanted ones (as bits); NONE with a FAULT. */
+        private static int readWant(Tape tape, Land land, int wanted) {
+            tape.advance();
+            int good = takeTold(tape, land.goodNames, land.goods, wanted);
+            if (good == NONE) {
+                return NONE;
             }
-            return true;
-        }
-
-        private static boolean readWorths(Tape tape, int[] worths, int first) {
+            int[] worths = land.worths[land.people];
             int ahead = MOST_WORTH;
             for (int k = 0; k < WORTHS && (k == 0 || tape.kind == Tape.NUMBER); k++) {
                 ahead = tape.takeNumber(0, ahead);
-                if (ahead == NONE || first + k >= worths.length) {
-                    return false;
+                if (ahead == NONE) {
+                    return NONE;
                 }
-                worths[first + k] = ahead;
+                worths[good * WORTHS + k] = ahead;
             }
-            return true;
+            return good;
         }
 
         /** The NAME counts as told only when its line's count goes up. */

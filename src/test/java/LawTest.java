@@ -164,6 +164,10 @@ final class LawTest {
         Due.is("things stay as they were", x.count(3), 2);
         Due.rule(x, "lawful when sort = 0 and own and part and not door and away = 0;");
         Due.is("made alone, sort 0, door 0", x.years(1, 10, 0), 90);
+        Due.rule(x, "lawful when good = 1;");
+        Due.is("g is not lawful", x.years(1, 10, 0), 0);
+        Due.rule(x, "lawful when good = 0;");
+        Due.is("h is not lawful", x.years(1, 10, 0), 0);
         Due.rule(x, "lawful when free;");
         Due.is("not free", x.years(1, 10, 0), 0);
         Due.is("ten weeks with 0", x.years(1, 10, 1), 10);

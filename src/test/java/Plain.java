@@ -67,6 +67,9 @@ final class Plain {
     private List<Expr> lines = new ArrayList<>();
     private State now = new State(new ArrayList<>(), new int[8], new int[8], new boolean[6]);
     private final State[] marks = new State[4];
+    private Trade lastTrade;
+    private Country lastCountry;
+    private List<Expr> lastLines;
 
     // ---- reading ----
 
@@ -697,8 +700,16 @@ final class Plain {
         }
     }
 
+    /** Kept as long as nothing of it is another. */
     private Trade trade() {
-        return new Trade(now.things, 0, now.lifted);
+        boolean same = lastTrade != null && lastCountry == country && lastLines == lines
+                && lastTrade.things.equals(now.things) && Arrays.equals(lastTrade.lifted, now.lifted);
+        if (!same) {
+            lastTrade = new Trade(new ArrayList<>(now.things), 0, now.lifted.clone());
+            lastCountry = country;
+            lastLines = lines;
+        }
+        return lastTrade;
     }
 
     private int all() {

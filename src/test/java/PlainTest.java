@@ -21,7 +21,7 @@ final class PlainTest {
     }
 
     public static void main(String[] args) {
-        int runs = args.length > 0 ? Integer.parseInt(args[0]) : 400;
+        int runs = args.length > 0 ? Integer.parseInt(args[0]) : 250;
         for (int seed = 0; seed < runs; seed++) {
             new PlainTest(seed).run();
         }
@@ -40,6 +40,9 @@ final class PlainTest {
         }
         while (calls < 300) {
             calls++;
+            if (calls % 100 == 1) {
+                everySet();
+            }
             if (chance(150)) {
                 tell(chance(2) ? landText() : spoilt(landText()), true);
             } else if (chance(100)) {
@@ -50,6 +53,16 @@ final class PlainTest {
             }
         }
         faults();
+    }
+
+    private void everySet() {
+        for (int set = 0; set < 1 << people; set++) {
+            compare("round " + set);
+            compare("length " + set);
+            for (int what = 0; what < 3; what++) {
+                compare("most " + set + " " + what);
+            }
+        }
     }
 
     /** Texts with a sign or a word too many, too few or another: each must have the same FAULT. */
@@ -130,11 +143,12 @@ final class PlainTest {
             }
             used[good] = true;
         }
-        used = rich ? used : new boolean[6];
-        for (int i = rich ? 1 + upTo(3) : upTo(5); i > 0; i--) {
+        boolean[] made = used;
+        used = new boolean[6];
+        for (int i = rich ? 1 + upTo(4) : upTo(5); i > 0; i--) {
             int good = upTo(g - 1);
             if (!used[good]) {
-                int worth = upTo(chance(5) ? 999 : 12);
+                int worth = upTo(rich && made[good] ? 3 : chance(5) ? 999 : 12);
                 text.append(" wants g").append(LETTERS.charAt(good)).append(' ').append(worth);
                 for (int k = upTo(2); k > 0; k--) {
                     worth = upTo(worth);

@@ -8,6 +8,7 @@ final class RoundsTest {
         lawOfRounds();
         fewestRounds();
         fewestPeople();
+        laterRings();
         wrongSets();
         at();
         live();
@@ -54,6 +55,9 @@ final class RoundsTest {
         Due.is("no two", x.round(3), -1);
         Due.is("no two", x.round(5), -1);
         Due.is("no two", x.round(6), -1);
+        OwnMade w = made("person p at a makes u wants u 1 wants v 5;person q at a makes v wants v 2 wants w 6;"
+                + "person r at a makes w wants w 4 wants u 7;");
+        Due.is("each less what is given: 4, 4, 3", w.round(7), 11);
         Due.is("length", x.length(7), 3);
         Due.is("worth", x.most(7, 0), 18);
         Due.is("rounds", x.most(7, 1), 1);
@@ -163,6 +167,56 @@ final class RoundsTest {
         Due.is("the fewest people", x.most(7, 2), 2);
     }
 
+    /** The same with a ring found later, and with fewer people in more rounds. */
+    private static void laterRings() {
+        OwnMade x = made("person p at a makes u x wants v 5 wants z 5;person q at a makes v wants w 4;"
+                + "person r at a makes w wants u 1;person s at a makes z wants x 5;");
+        Due.is("p q r", x.round(7), 10);
+        Due.is("p s", x.round(9), 10);
+        Due.is("worth", x.most(15, 0), 10);
+        Due.is("one round", x.most(15, 1), 1);
+        Due.is("of two", x.most(15, 2), 2);
+        OwnMade y = made("person p at a makes u wants v 5 wants y 4;person q at a makes v wants u 5;"
+                + "person r at a makes w wants x 5 wants v 4;person s at a makes x wants w 5;person t at a makes y wants x 2;");
+        Due.is("p q", y.round(3), 10);
+        Due.is("r s", y.round(12), 10);
+        Due.is("five", y.round(31), 20);
+        Due.is("worth", y.most(31, 0), 20);
+        Due.is("one round", y.most(31, 1), 1);
+        Due.is("of five", y.most(31, 2), 5);
+        changes();
+    }
+
+    /** Whatever changes a ROUND is seen by the next call. */
+    private static void changes() {
+        String text = "place a;good g hours 1;good f hours 1 from g;good h hours 1;"
+                + "person p at a makes g f wants h 4;person q at a makes h wants f 3;";
+        OwnMade x = Due.told(text);
+        Due.is("nothing", x.length(3), -1);
+        Due.is("made", x.make(1, -1, 2, 0) + x.make(0, -1, 0, 0), 0);
+        Due.is("g is not wanted", x.length(3), -1);
+        Due.is("f is made of it", x.make(0, -1, 1, 0), 0);
+        Due.is("used up before, then f", x.round(3), 7);
+        Due.is("as at a", x.at(0), 7);
+        Due.rule(x, "lawful when good = 1;");
+        Due.is("h is not lawful", x.round(3), -1);
+        Due.rule(x, "lawful when good = 1 or good = 2;");
+        Due.is("both are", x.round(3), 7);
+        x.mark(0, false);
+        Due.is("given", x.give(0, 1, 2), 0);
+        Due.is("that was it", x.round(3), -1);
+        x.mark(0, true);
+        Due.is("as it was", x.round(3), 7);
+        Due.rule(x, "lawful when free;");
+        x.lifted(1, true);
+        Due.is("one is free", x.round(3), -1);
+        x.lifted(2, true);
+        Due.is("both are free", x.round(3), 7);
+        Due.land(x, text);
+        Due.is("a new land", x.round(3), -1);
+        Due.is("with nothing", x.most(3, 0), 0);
+    }
+
     private static void wrongSets() {
         OwnMade x = made("person p at a makes u wants v 5;person q at a makes v wants u 5;");
         for (int set : new int[] {-1, 4, 7, 256, Integer.MIN_VALUE, Integer.MAX_VALUE}) {
@@ -212,6 +266,8 @@ final class RoundsTest {
         y.go(1, 1);
         y.go(0, 1);
         Due.is("but now", y.at(1), 9);
+        Due.rule(y, "lawful when own and (door or good = 1);");
+        Due.is("p is not at home now", y.at(1), 0);
         Due.is("nobody is there", y.at(0), 0);
     }
 

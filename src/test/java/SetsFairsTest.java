@@ -61,6 +61,12 @@ final class SetsFairsTest {
         Due.is("dan alone", x.fewest(3, 1), 8);
         Due.is("eve never", x.fewest(4, 0), -1);
         Due.is("eve never", x.fewest(4, 1), -1);
+        OwnMade y = Due.told("place a;good g hours 1;good h hours 1;person p at a makes g wants h 1;person q at a makes h wants g 1;");
+        Due.is("all are needed", y.fewest(0, 0), 2);
+        Due.is("all", y.fewest(1, 1), 3);
+        OwnMade z = Due.told("place a;person p at a makes;person q at a makes;");
+        Due.is("who wants nothing is enough", z.fewest(0, 1), 1);
+        Due.is("the other one, too", z.fewest(1, 1), 2);
         Due.is("other one", x.fewest(5, 0), -1);
         Due.is("other one", x.fewest(-1, 0), -1);
         Due.is("other what", x.fewest(0, 2), -1);

@@ -74,6 +74,18 @@ final class TapeLandTest {
         Due.is("one place within them", z.count(0), 1);
         Due.is("what reads it takes it", z.count(6), 0);
         Due.is("and there is room again", z.feed(Due.eight("place c;", 0), 0, 0), 8);
+        Due.is("it is read as fed", z.land(), 0);
+        OwnMade w = new OwnMade();
+        Due.land(w, "place abcdefgh;place a;way a abcdefgh 24 4444;");
+        Due.is("what was on the tape before is gone", Due.land(w, "place a;place abcdefgh;way a abcdefgh 2"), 1 + 16 * 39);
+        StringBuilder text = new StringBuilder("place a;place b;way a b ");
+        while (text.length() < 999) {
+            text.append(' ');
+        }
+        Due.is("a number as the last of 1,000", Due.land(w, text + "7;"), 1 + 16 * 1000);
+        Due.is("a word as the last of 1,000", Due.land(w, text + "a;"), 1 + 16 * 999);
+        text.setLength(998);
+        Due.is("all of 1,000", Due.land(w, text + "7;"), 0);
     }
 
     // ---- promise 3 ----
@@ -86,6 +98,7 @@ final class TapeLandTest {
                 + "good own hours 1;good not hours 1 from own;person and at when makes own not wants own 1;"
                 + "person or at when makes;person free at lawful makes wants not 2;"), 0);
         Due.is("eight letters", Due.land(new OwnMade(), "place abcdefgh;place abcdefgi;place abcdefg;"), 0);
+        Due.is("names that are alike but for their length", Due.land(new OwnMade(), "place a;place aa;place b;place bb;place z;"), 0);
         Due.is("leading zeros", Due.land(new OwnMade(), "place a;place b;way a b 0024;"), 0);
         Due.is("an empty land", new OwnMade().land(), 0);
         Due.landFault("place abcdefghi;", 1, 6);
@@ -220,6 +233,17 @@ final class TapeLandTest {
         Due.is("8 people", Due.told(people.toString()).count(2), 8);
         Due.landFault(people + "person x at a makes;", 5, people.length());
         Due.landFault("place a place a;", 1, 8);
+        String all = " ga gb gc gd ge gf";
+        Due.is("all goods are made", Due.land(new OwnMade(), goods + "person p at a makes" + all + ";"), 0);
+        Due.landFault(goods + "person p at a makes" + all + " ga;", 3, goods.length() + 38);
+        Due.landFault(goods + "person p at a makes" + all + " gf;", 3, goods.length() + 38);
+        Due.landFault(goods + "person p at a makes" + all + " gx;", 2, goods.length() + 38);
+        String wants = all.replace(" g", " 1 wants g").substring(2) + " 1";
+        Due.is("all goods are wanted", Due.land(new OwnMade(), goods + "person p at a makes" + wants + ";"), 0);
+        String again = goods + "person p at a makes" + wants + " wants ";
+        Due.landFault(again + "gc 1;", 3, again.length());
+        Due.landFault(again + "gx 1;", 2, again.length());
+        Due.landFault(again + "pa 1;", 2, again.length());
     }
 
     // ---- promise 4 ----
