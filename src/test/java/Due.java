@@ -4,6 +4,8 @@ import java.util.NoSuchElementException;
 final class Due {
     private static int wrong = 0;
     private static int asked = 0;
+    // the sentence of the document that is held to at the moment
+    private static String sentence = "";
 
     interface Call {
         long answer();
@@ -17,13 +19,26 @@ final class Due {
         if (got != want) {
             wrong++;
             if (wrong <= 30) {
-                System.out.println(call + " answered " + got + ", due is " + want);
+                System.out.println(sentence + call + " answered " + got + ", due is " + want);
             }
         }
     }
 
     static void is(String call, boolean got, boolean want) {
         is(call, got ? 1 : 0, want ? 1 : 0);
+    }
+
+    static int asked() {
+        return asked;
+    }
+
+    static void within(String newSentence) {
+        sentence = newSentence.isEmpty() ? "" : "\"" + newSentence + "\": ";
+    }
+
+    /** Numbers that are none of 0 to the last one. */
+    static int[] others(int last) {
+        return new int[] {-1, last + 1, -2, last + 2, 256, Integer.MIN_VALUE, Integer.MAX_VALUE};
     }
 
     /** The call throws just that exception. */
@@ -80,6 +95,23 @@ final class Due {
 
     static void ruleFault(String text, int kind, int place) {
         is("rule: " + text, rule(new OwnMade(), text), kind + 16 * place);
+    }
+
+    static void landFine(String text) {
+        is("land: " + text, land(new OwnMade(), text), 0);
+    }
+
+    static void ruleFine(String text) {
+        is("rule: " + text, rule(new OwnMade(), text), 0);
+    }
+
+    /** The FAULT stands where the text has a ^ that is not told. */
+    static void landWrong(int kind, String marked) {
+        landFault(marked.replace("^", ""), kind, marked.indexOf('^'));
+    }
+
+    static void ruleWrong(int kind, String marked) {
+        ruleFault(marked.replace("^", ""), kind, marked.indexOf('^'));
     }
 
     /** Ends the test: exit code 1 if an answer was not as due. */
