@@ -1548,7 +1548,7 @@ public final class OwnMade {
                 int goods = gifts[first * MOST_PEOPLE + next];
                 for (int good = 0; good < MOST_GOODS && goods >> good != 0; good++) {
                     if ((goods >> good & 1) == 1) {
-                        any |= goOn(1 << first | 1 << next, first, good, next, good, 0);
+                        any |= goOn(this, 1 << first | 1 << next, first, good, next, good, 0);
                     }
                 }
             }
@@ -1556,19 +1556,19 @@ public final class OwnMade {
         }
 
         /** A ring began with what the first one gave, and has come to one who got something. */
-        private boolean goOn(int ring, int first, int gave, int one, int got, int gain) {
-            int gladly = glad[one * MOST_GOODS + got];
-            int now = gain + more[one * MOST_GOODS + got];
-            boolean any = closeRing(ring, first, gave, gladly & gifts[one * MOST_PEOPLE + first], one, now);
+        private static boolean goOn(Rounds in, int ring, int first, int gave, int one, int got, int gain) {
+            int gladly = in.glad[one * MOST_GOODS + got];
+            int now = gain + in.more[one * MOST_GOODS + got];
+            boolean any = in.closeRing(ring, first, gave, gladly & in.gifts[one * MOST_PEOPLE + first], one, now);
             if (Integer.bitCount(ring) >= MOST_RING) {
                 return any;
             }
             for (int next = first + 1; next < MOST_PEOPLE; next++) {
-                int goods = (ring >> next & 1) == 1 ? 0 : gladly & gifts[one * MOST_PEOPLE + next];
+                int goods = (ring >> next & 1) == 1 ? 0 : gladly & in.gifts[one * MOST_PEOPLE + next];
                 for (int good = 0; good < MOST_GOODS && goods >> good != 0; good++) {
                     if ((goods >> good & 1) == 1) {
-                        int left = now - last[one * MOST_GOODS + good];
-                        any |= goOn(ring | 1 << next, first, gave, next, good, left);
+                        int left = now - in.last[one * MOST_GOODS + good];
+                        any |= goOn(in, ring | 1 << next, first, gave, next, good, left);
                     }
                 }
             }

@@ -213,6 +213,10 @@ final class LanguageTest extends TreePathScanner<Void, Void> {
         for (Element method : calls.keySet()) {
             if (reach.get(method).contains(method)) {
                 again.add(method.getSimpleName().toString());
+                Set<Modifier> how = method.getModifiers();
+                boolean itself = calls.get(method).contains(method);
+                Due.is(method + " calls itself and is private", how.contains(Modifier.PRIVATE), true);
+                Due.is(method + " calls itself and is static", !itself || how.contains(Modifier.STATIC), true);
             }
             if (isFace(method)) {
                 int depth = depth(method, reach, new HashMap<>());
